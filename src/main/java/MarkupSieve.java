@@ -225,11 +225,11 @@ public final class MarkupSieve {
 
         /** Answers no character beyond the ends, so that readers may look ahead freely. */
         char at(int i) {
-            return i >= 0 && i < size && i < MOST_CHARACTERS ? row[i] : NO_CHARACTER;
+            return i >= 0 && i < size ? row[i] : NO_CHARACTER;
         }
 
         void add(char c) {
-            if (size < 0 || size >= MOST_CHARACTERS) {
+            if (size >= MOST_CHARACTERS) {
                 overflowed = true;
                 return;
             }
@@ -304,7 +304,10 @@ public final class MarkupSieve {
         }
     }
 
-    /** Finds references; what is found is one number, the character and how many stand for it. */
+    /**
+     * Finds references. What is found is one number, made of the character that a reference stands
+     * for and of its size, so that finding makes no object.
+     */
     private static final class References {
         private static final int MOST_DIGITS = 3;
         private static final int NOT_FOUND = 0;
@@ -410,7 +413,7 @@ public final class MarkupSieve {
         }
 
         private boolean hasScheme(long letters) {
-            for (int i = 0; i < schemeCount && i < MOST_SCHEMES; i++) {
+            for (int i = 0; i < schemeCount; i++) {
                 if (schemes[i] == letters) {
                     return true;
                 }
@@ -504,7 +507,7 @@ public final class MarkupSieve {
         }
 
         boolean hasNode(int i) {
-            return i >= 0 && i < count && i < MOST_NODES;
+            return i >= 0 && i < count;
         }
 
         int codeOf(int i) {
@@ -564,7 +567,7 @@ public final class MarkupSieve {
         }
 
         boolean hasAttribute(int place) {
-            return place >= 0 && place < attributeCount && place < MOST_ATTRIBUTES;
+            return place >= 0 && place < attributeCount;
         }
 
         int letterOf(int place) {
@@ -628,7 +631,7 @@ public final class MarkupSieve {
         }
 
         private int addNode(int code, int begin) {
-            if (count < 0 || count >= MOST_NODES) {
+            if (count >= MOST_NODES) {
                 return NONE;
             }
             codes[count] = code;
@@ -641,8 +644,7 @@ public final class MarkupSieve {
         /** Gives the latest node the tag's attributes, in the order in which they are written. */
         void addAttributes(Tag tag, Line source) {
             for (int letter = 0; letter < LETTERS; letter++) {
-                boolean room = attributeCount >= 0 && attributeCount < MOST_ATTRIBUTES;
-                if (room && tag.hasAttribute(letter)) {
+                if (tag.hasAttribute(letter) && attributeCount < MOST_ATTRIBUTES) {
                     attributeLetters[attributeCount] = letter;
                     valueBegins[attributeCount] = values.size();
                     values.addResolved(source, tag.beginOf(letter), tag.endOf(letter));
@@ -681,7 +683,7 @@ public final class MarkupSieve {
         }
 
         void add(int name, boolean foreign) {
-            if (count >= 0 && count < MOST_OPEN) {
+            if (count < MOST_OPEN) {
                 names[count] = name;
                 foreigns[count] = foreign;
                 count++;
@@ -693,11 +695,11 @@ public final class MarkupSieve {
         }
 
         private boolean isForeign(int place) {
-            return place >= 0 && place < count && place < MOST_OPEN && foreigns[place];
+            return place >= 0 && place < count && foreigns[place];
         }
 
         private boolean isNamed(int place, int name) {
-            return place >= 0 && place < count && place < MOST_OPEN && names[place] == name;
+            return place >= 0 && place < count && names[place] == name;
         }
 
         int lastInTail(int name) {
@@ -882,7 +884,7 @@ public final class MarkupSieve {
             rawDue = false;
         }
 
-        /** Answers the tree. */
+        /** Answers the tree, which is the same object each time. */
         Tree readAll() {
             builder.begin();
             at = 0;
@@ -1063,8 +1065,7 @@ public final class MarkupSieve {
         }
 
         private void writeEnds(Tree tree, int depth) {
-            while (unendedCount > 0 && unendedCount <= MOST_OPEN
-                    && tree.depthOf(unended[unendedCount - 1]) >= depth) {
+            while (unendedCount > 0 && tree.depthOf(unended[unendedCount - 1]) >= depth) {
                 unendedCount--;
                 target.addWord("</");
                 writeLetter(tree.nameOf(unended[unendedCount]));
@@ -1098,7 +1099,7 @@ public final class MarkupSieve {
             }
             target.addWord(">");
             boolean hasEnd = tree.isForeign(i) || !isEmptyName(name);
-            if (hasEnd && unendedCount >= 0 && unendedCount < MOST_OPEN) {
+            if (hasEnd && unendedCount < MOST_OPEN) {
                 unended[unendedCount] = i;
                 unendedCount++;
             }

@@ -119,13 +119,21 @@ public final class CleanTest {
         Check.same("one again", sieve.rounds(), 1);
     }
 
-    /** An object is used for 512 calls; the dearest ones must not wear it out. */
+    /** An object is used for 512 calls; what the dearest ones leave behind must not add up. */
     private static void longestRun() {
         MarkupSieve sieve = Sieves.keeping("abp");
-        Sieves.feed(sieve, "<a><v><a><b><p>&lt;".repeat(10));
-        int first = sieve.clean();
+        sieve.attribute(MarkupSieve.EVERY, 2, true);
+        String input = "<a c='1'><v><a c=2><b c='&lt;'><p c>&lt;".repeat(4);
+        Sieves.feed(sieve, input);
+        int size = sieve.clean();
+        int nodes = sieve.nodes();
+        String output = Sieves.output(sieve);
         for (int call = 0; call < 512; call++) {
-            Check.same("clean again", sieve.clean(), first);
+            Check.same("clean again", sieve.clean(), size);
+            Check.same("nodes again", sieve.nodes(), nodes);
+            Check.same("value again", Sieves.value(sieve, 3, 2), "<");
         }
+        Check.same("output again", Sieves.output(sieve), output);
+        Check.same("a long one then", Sieves.clean(sieve, "x".repeat(200)), "x".repeat(200) + " | 1");
     }
 }

@@ -197,6 +197,11 @@ public final class PolicyTest {
         for (String value : gone) {
             Check.no("keeps h=" + value, keeps(sieve, value));
         }
+        sieve.attribute(MarkupSieve.EVERY, H + 1, true);
+        String next = "<b h=\"ja\" i=\":x\"></b>";
+        Check.same("the next value is not read on", Sieves.clean(sieve, next), next + " | 1");
+        String blank = "<b h=\" \" i=\"ja:x\"></b>";
+        Check.same("nor behind blanks", Sieves.clean(sieve, blank), blank + " | 1");
     }
 
     private static void reset() {

@@ -1,4 +1,4 @@
-/** The document's terms: tokens, references and how the tree is made; see Sieves.tree for how it is drawn. */
+/** The document's terms: tokens, references and how the tree is made (Sieves.tree draws it). */
 public final class ReadingTest {
     private ReadingTest() {}
 
@@ -49,6 +49,9 @@ public final class ReadingTest {
         reads("<ss>a<b>", "?('a' b)");
         reads("<v><s>a<b>&lt;</s>c", "*v(*s('a' *b('<')) 'c')");
         reads("<v><f><s>a<b></s>c", "*v(*f(s('a<b>') 'c'))");
+        MarkupSieve sieve = Sieves.cleaned("<s>");
+        Sieves.clean(sieve, "<b>x");
+        Check.same("no raw text is due in the next input", sieve.nodes(), 2);
     }
 
     private static void comments() {

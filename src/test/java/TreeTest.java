@@ -64,6 +64,11 @@ public final class TreeTest {
         for (int i : NO_NODES) {
             Check.same("node " + i, sieve.node(i), MarkupSieve.NONE);
         }
+        MarkupSieve capitals = Sieves.cleaned("<A A=1 Z=23></a><Z>");
+        Check.same("A is letter 0", capitals.node(0), 3);
+        Check.same("Z is letter 25", capitals.node(1), 3 + 4 * 25);
+        Check.same("attribute A", capitals.length(0, 0), 1);
+        Check.same("attribute Z", capitals.length(0, 25), 2);
         MarkupSieve unknown = Sieves.cleaned("<v><yy>t</yy><!c>");
         Check.same("foreign unknown", unknown.node(1), 3 + 4 * 26 + 128 + 4096);
         Check.same("text in it", unknown.node(2), 1 + 2 * 128);
