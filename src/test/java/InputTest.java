@@ -13,7 +13,7 @@ public final class InputTest {
     }
 
     private static void newObject() {
-        MarkupSieve sieve = new MarkupSieve();
+        Sieve sieve = new Sieve();
         Check.same("new rounds", sieve.rounds(), 0);
         Check.same("new nodes", sieve.nodes(), 0);
         Check.same("new node", sieve.node(0), MarkupSieve.NONE);
@@ -27,11 +27,11 @@ public final class InputTest {
 
     private static void newPolicy() {
         for (char c = 'a'; c <= 'z'; c++) {
-            MarkupSieve sieve = new MarkupSieve();
+            Sieve sieve = new Sieve();
             String due = c == 's' ? "13 | 2" : "123 | 2";
             Check.same("new policy", Sieves.clean(sieve, "1<" + c + " c=d>2</" + c + ">3"), due);
         }
-        MarkupSieve sieve = Sieves.keeping("b");
+        Sieve sieve = Sieves.keeping("b");
         String due = "<b></b> | 2";
         Check.same("no attributes", Sieves.clean(sieve, "<b a b c d e f g h i j k l m>"), due);
         Check.same("no attributes", Sieves.clean(sieve, "<b n o p q r s t u v w x y z>"), due);
@@ -40,7 +40,7 @@ public final class InputTest {
     }
 
     private static void putOrder() {
-        MarkupSieve sieve = new MarkupSieve();
+        Sieve sieve = new Sieve();
         Check.yes("put eight", sieve.put(Sieves.pack("abcdefgh")));
         Check.yes("put with bytes 0", sieve.put(0x6B00006A00690000L));
         Check.yes("put nothing", sieve.put(0L));
@@ -52,12 +52,12 @@ public final class InputTest {
     private static void putLimits() {
         for (int c = 1; c < 256; c++) {
             for (int b = 0; b < 8; b++) {
-                MarkupSieve sieve = new MarkupSieve();
+                Sieve sieve = new Sieve();
                 boolean due = c >= 32 && c <= 126;
                 Check.same("put " + c + " at " + b, sieve.put((long) c << (8 * b)), due);
             }
         }
-        MarkupSieve sieve = new MarkupSieve();
+        Sieve sieve = new Sieve();
         Sieves.feed(sieve, "x".repeat(195));
         Check.no("put 201 in all", sieve.put(Sieves.pack("yyyyyy")));
         Check.yes("put 200 in all", sieve.put(Sieves.pack("zzzzz")));
@@ -68,7 +68,7 @@ public final class InputTest {
     }
 
     private static void putChangesNothingWhenFalse() {
-        MarkupSieve sieve = new MarkupSieve();
+        Sieve sieve = new Sieve();
         sieve.put(Sieves.pack("ab"));
         Check.no("a wrong byte last", sieve.put(Sieves.pack("cdefghi\n")));
         Check.no("a wrong byte first", sieve.put(Sieves.pack("\u007fcd")));
@@ -80,7 +80,7 @@ public final class InputTest {
     }
 
     private static void wipe() {
-        MarkupSieve sieve = Sieves.keeping("b");
+        Sieve sieve = Sieves.keeping("b");
         Sieves.feed(sieve, "<b>x");
         sieve.clean();
         sieve.wipe();

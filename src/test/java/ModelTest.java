@@ -11,6 +11,9 @@ public final class ModelTest {
         "<v>", "</v>", "<f>", "</f>", "<n>", "<m/>", "</n>", "<l>", "<u>", "</u>", "</l>", "<a>", "</a>",
     };
     private static final String TAG_LETTERS = "abdflmnpsuv";
+    // So few that an object stays far below the calls that the document speaks of.
+    private static final int INPUTS_EACH = 3;
+    private static final int CALLS_FOR_A_NODE = 110;
     private static final int[] NOTED_ROUNDS = new int[7];
     // What the second round reads has kept elements alone, so what it writes reads as its own tree.
     private static final int MOST_ROUNDS_NEEDED = 3;
@@ -21,10 +24,10 @@ public final class ModelTest {
         int turns = args.length > 0 ? Integer.parseInt(args[0]) : 20000;
         Random random = new Random(args.length > 1 ? Long.parseLong(args[1]) : 20261115L);
         for (int turn = 0; turn < turns && Check.failures() < 10; turn++) {
-            MarkupSieve sieve = new MarkupSieve();
+            Sieve sieve = new Sieve();
             Model model = new Model();
             choosePolicy(random, sieve, model);
-            for (int time = 0; time < 3; time++) {
+            for (int time = 0; time < INPUTS_EACH; time++) {
                 compare(sieve, model, makeInput(random));
             }
         }
@@ -35,7 +38,7 @@ public final class ModelTest {
         Check.finish();
     }
 
-    private static void choosePolicy(Random random, MarkupSieve sieve, Model model) {
+    private static void choosePolicy(Random random, Sieve sieve, Model model) {
         int kept = random.nextInt(11);
         for (int letter = 0; letter < 26; letter++) {
             int what = random.nextInt(10) < kept ? 0 : random.nextInt(6) == 0 ? 2 : 1;
@@ -84,7 +87,7 @@ public final class ModelTest {
         return tagsAlone ? "</p>" : PIECES[random.nextInt(PIECES.length)];
     }
 
-    private static void compare(MarkupSieve sieve, Model model, String input) {
+    private static void compare(Sieve sieve, Model model, String input) {
         Sieves.feed(sieve, input);
         model.clean(input);
         int due = model.output == null ? MarkupSieve.REJECTED : model.output.length();
@@ -92,13 +95,15 @@ public final class ModelTest {
         Check.same("rounds of " + input, sieve.rounds(), model.rounds);
         Check.same("output of " + input, Sieves.output(sieve), model.output == null ? "" : model.output);
         Check.same("nodes of " + input, sieve.nodes(), model.firstNodes.size());
+        Sieve asked = sieve.again();
         for (int i = 0; i < model.firstNodes.size(); i++) {
-            compareNode(sieve, i, model.firstNodes.get(i), input);
+            asked = asked.callsLeft() < CALLS_FOR_A_NODE ? sieve.again() : asked;
+            compareNode(asked, i, model.firstNodes.get(i), input);
         }
         NOTED_ROUNDS[model.rounds]++;
     }
 
-    private static void compareNode(MarkupSieve sieve, int i, Model.Node node, String input) {
+    private static void compareNode(Sieve sieve, int i, Model.Node node, String input) {
         int code = node.kind + 4 * node.name + 128 * Model.depth(node) + (node.foreign ? 4096 : 0);
         Check.same("node " + i + " of " + input, sieve.node(i), code);
         Check.same("text " + i + " of " + input, Sieves.text(sieve, i), node.text);

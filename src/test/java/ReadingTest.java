@@ -49,7 +49,7 @@ public final class ReadingTest {
         reads("<ss>a<b>", "?('a' b)");
         reads("<v><s>a<b>&lt;</s>c", "*v(*s('a' *b('<')) 'c')");
         reads("<v><f><s>a<b></s>c", "*v(*f(s('a<b>') 'c'))");
-        MarkupSieve sieve = Sieves.cleaned("<s>");
+        Sieve sieve = Sieves.cleaned("<s>");
         Sieves.clean(sieve, "<b>x");
         Check.same("no raw text is due in the next input", sieve.nodes(), 2);
     }

@@ -1,5 +1,9 @@
-/** Speaks to a MarkupSieve in strings, and draws its tree. */
+import java.util.function.IntToLongFunction;
+
+/** Speaks to a Sieve in strings, and draws its tree. */
 final class Sieves {
+    private static final int LETTERS = 26;
+
     private Sieves() {}
 
     static long pack(String characters) {
@@ -21,9 +25,17 @@ final class Sieves {
         return characters.toString();
     }
 
-    /** Makes the string the input. */
-    static void feed(MarkupSieve sieve, String input) {
-        sieve.wipe();
+    /** What should be answered for the eight characters from 8 * k on. */
+    static long eightOf(String characters, long k) {
+        if (k < 0 || 8 * k >= characters.length()) {
+            return 0L;
+        }
+        int from = (int) (8 * k);
+        return pack(characters.substring(from, Math.min(from + 8, characters.length())));
+    }
+
+    /** Adds the string to the input. */
+    static void add(Sieve sieve, String input) {
         for (int i = 0; i < input.length(); i += 8) {
             String piece = input.substring(i, Math.min(i + 8, input.length()));
             if (!sieve.put(pack(piece))) {
@@ -32,116 +44,138 @@ final class Sieves {
         }
     }
 
-    static MarkupSieve cleaned(String input) {
-        MarkupSieve sieve = new MarkupSieve();
+    /** Makes the string the input. */
+    static void feed(Sieve sieve, String input) {
+        sieve.wipe();
+        add(sieve, input);
+    }
+
+    static Sieve cleaned(String input) {
+        Sieve sieve = new Sieve();
         feed(sieve, input);
         sieve.clean();
         return sieve;
     }
 
     /** Gives all letters of a string an action. */
-    static MarkupSieve act(MarkupSieve sieve, int what, String letters) {
+    static Sieve act(Sieve sieve, int what, String letters) {
         for (char c : letters.toCharArray()) {
             Check.yes("action " + c, sieve.action(number(c), what));
         }
         return sieve;
     }
 
-    static MarkupSieve keeping(String letters) {
-        return act(new MarkupSieve(), MarkupSieve.KEEP, letters);
+    static Sieve keeping(String letters) {
+        return act(new Sieve(), MarkupSieve.KEEP, letters);
+    }
+
+    /** Lets elements of a letter ('*' for every one) have all attributes of a string. */
+    static Sieve allow(Sieve sieve, char letter, String attributes) {
+        int number = letter == '*' ? MarkupSieve.EVERY : number(letter);
+        for (char a : attributes.toCharArray()) {
+            Check.yes("attribute " + letter + ", " + a, sieve.attribute(number, number(a), true));
+        }
+        return sieve;
+    }
+
+    static Sieve allowSchemes(Sieve sieve, String... schemes) {
+        for (String scheme : schemes) {
+            Check.yes("scheme " + scheme, sieve.scheme(pack(scheme)));
+        }
+        return sieve;
     }
 
     static int number(char c) {
         return c - 'a';
     }
 
-    static String output(MarkupSieve sieve) {
-        StringBuilder all = new StringBuilder();
-        for (int k = 0; k <= 25; k++) {
-            all.append(unpack(sieve.output(k)));
-        }
-        return all.toString();
+    static String output(Sieve sieve) {
+        return readOn(sieve::output);
     }
 
-    static String text(MarkupSieve sieve, int i) {
-        StringBuilder all = new StringBuilder();
-        for (int k = 0; k <= 25; k++) {
-            all.append(unpack(sieve.text(i, k)));
-        }
-        return all.toString();
+    static String text(Sieve sieve, int i) {
+        return readOn(k -> sieve.text(i, k));
     }
 
-    static String value(MarkupSieve sieve, int i, int a) {
+    static String value(Sieve sieve, int i, int a) {
+        return readOn(k -> sieve.value(i, a, k));
+    }
+
+    /** No character is 0, so the first eight that are all 0 are behind the end. */
+    private static String readOn(IntToLongFunction eights) {
         StringBuilder all = new StringBuilder();
-        for (int k = 0; k <= 25; k++) {
-            all.append(unpack(sieve.value(i, a, k)));
+        long eight = eights.applyAsLong(0);
+        for (int k = 1; eight != 0; k++) {
+            all.append(unpack(eight));
+            eight = eights.applyAsLong(k);
         }
         return all.toString();
     }
 
     /** What clean() makes of the string: the output, or "REJECTED", and behind it the rounds. */
-    static String clean(MarkupSieve sieve, String input) {
+    static String clean(Sieve sieve, String input) {
         feed(sieve, input);
+        return cleanInput(sieve);
+    }
+
+    static String cleanInput(Sieve sieve) {
         int size = sieve.clean();
         String output = output(sieve);
         if (size != MarkupSieve.REJECTED) {
-            Check.same("size of the output of " + input, size, output.length());
+            Check.same("size of the output " + output, size, output.length());
             return output + " | " + sieve.rounds();
         }
-        Check.same("output of the rejected " + input, output, "");
+        Check.same("output of what is rejected", output, "");
         return "REJECTED | " + sieve.rounds();
     }
 
-    /**
-     * The tree of a string: 'text', !comment!, and elements by their letter (? if unknown, with *
-     * before it if foreign), their attributes a="value" in [], and their children in ().
-     */
+    /** The tree of a string, as drawTree draws it. */
     static String tree(String input) {
-        MarkupSieve sieve = cleaned(input);
+        return drawTree(cleaned(input));
+    }
+
+    /**
+     * Draws the tree: 'text', !comment!, and elements by their letter (? if unknown, with * before
+     * it if foreign), their attributes a="value" in [], and their children in ().
+     */
+    static String drawTree(Sieve sieve) {
         StringBuilder drawn = new StringBuilder();
-        drawChildren(sieve, 0, 0, drawn);
-        return drawn.toString();
-    }
-
-    private static int drawChildren(MarkupSieve sieve, int first, int depth, StringBuilder drawn) {
-        int i = first;
-        while (i < sieve.nodes() && depthOf(sieve, i) == depth) {
-            drawn.append(i == first ? "" : " ");
-            drawNode(sieve, i, drawn);
-            i++;
-            if (i < sieve.nodes() && depthOf(sieve, i) > depth) {
-                drawn.append('(');
-                i = drawChildren(sieve, i, depth + 1, drawn);
-                drawn.append(')');
-            }
+        int nodes = sieve.nodes();
+        int depth = 0;
+        for (int i = 0; i < nodes; i++) {
+            int code = sieve.node(i);
+            int itsDepth = code % 4096 / 128;
+            drawn.append(itsDepth > depth ? "(" : ")".repeat(depth - itsDepth));
+            drawn.append(itsDepth > depth || i == 0 ? "" : " ");
+            drawNode(sieve, i, code, drawn);
+            depth = itsDepth;
         }
-        return i;
+        return drawn.append(")".repeat(depth)).toString();
     }
 
-    private static int depthOf(MarkupSieve sieve, int i) {
-        return sieve.node(i) % 4096 / 128;
-    }
-
-    private static void drawNode(MarkupSieve sieve, int i, StringBuilder drawn) {
-        int kind = sieve.node(i) % 4;
+    private static void drawNode(Sieve sieve, int i, int code, StringBuilder drawn) {
+        int kind = code % 4;
         if (kind == MarkupSieve.TEXT) {
             drawn.append('\'').append(text(sieve, i)).append('\'');
         } else if (kind == MarkupSieve.COMMENT) {
             drawn.append('!').append(text(sieve, i)).append('!');
         } else {
-            int name = sieve.node(i) % 128 / 4;
-            drawn.append(sieve.node(i) >= 4096 ? "*" : "");
-            drawn.append(name == 26 ? '?' : (char) ('a' + name));
+            int name = code % 128 / 4;
+            drawn.append(code >= 4096 ? "*" : "");
+            drawn.append(name == LETTERS ? '?' : (char) ('a' + name));
             drawAttributes(sieve, i, drawn);
         }
     }
 
-    private static void drawAttributes(MarkupSieve sieve, int i, StringBuilder drawn) {
+    private static void drawAttributes(Sieve sieve, int i, StringBuilder drawn) {
         StringBuilder all = new StringBuilder();
-        for (int a = 0; a < 26; a++) {
-            if (sieve.length(i, a) != MarkupSieve.NONE) {
-                String value = value(sieve, i, a);
-                Check.same("length of a value", sieve.length(i, a), value.length());
+        // Many elements with all their letters would be more calls than an object has.
+        Sieve asked = sieve.callsLeft() < 200 ? sieve.again() : sieve;
+        for (int a = 0; a < LETTERS; a++) {
+            int length = asked.length(i, a);
+            if (length != MarkupSieve.NONE) {
+                String value = value(asked, i, a);
+                Check.same("length of a value", length, value.length());
                 all.append(all.length() == 0 ? "" : " ");
                 all.append((char) ('a' + a)).append("=\"").append(value).append('"');
             }

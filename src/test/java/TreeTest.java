@@ -19,7 +19,7 @@ public final class TreeTest {
     }
 
     private static void nodes() {
-        MarkupSieve sieve = new MarkupSieve();
+        Sieve sieve = new Sieve();
         Sieves.feed(sieve, "a<b>c<!d>e</b><f>");
         Check.same("before clean", sieve.nodes(), 0);
         sieve.clean();
@@ -41,7 +41,7 @@ public final class TreeTest {
     }
 
     private static void nodesOfTheFirstRound() {
-        MarkupSieve sieve = Sieves.keeping("a");
+        Sieve sieve = Sieves.keeping("a");
         Check.same("three rounds", Sieves.clean(sieve, "<a>1<v><a>2"), "<a>1</a><a>2</a> | 3");
         Check.same("nodes", sieve.nodes(), 5);
         Check.same("v", sieve.node(2), 3 + 4 * V + 128 + 4096);
@@ -52,7 +52,7 @@ public final class TreeTest {
     }
 
     private static void node() {
-        MarkupSieve sieve = Sieves.cleaned("<a><Z><xx>t<!c><v><b></v>");
+        Sieve sieve = Sieves.cleaned("<a><Z><xx>t<!c><v><b></v>");
         Check.same("letter 0", sieve.node(0), 3);
         Check.same("letter 25", sieve.node(1), 3 + 4 * 25 + 128);
         Check.same("unknown", sieve.node(2), 3 + 4 * 26 + 2 * 128);
@@ -64,19 +64,19 @@ public final class TreeTest {
         for (int i : NO_NODES) {
             Check.same("node " + i, sieve.node(i), MarkupSieve.NONE);
         }
-        MarkupSieve capitals = Sieves.cleaned("<A A=1 Z=23></a><Z>");
+        Sieve capitals = Sieves.cleaned("<A A=1 Z=23></a><Z>");
         Check.same("A is letter 0", capitals.node(0), 3);
         Check.same("Z is letter 25", capitals.node(1), 3 + 4 * 25);
         Check.same("attribute A", capitals.length(0, 0), 1);
         Check.same("attribute Z", capitals.length(0, 25), 2);
-        MarkupSieve unknown = Sieves.cleaned("<v><yy>t</yy><!c>");
+        Sieve unknown = Sieves.cleaned("<v><yy>t</yy><!c>");
         Check.same("foreign unknown", unknown.node(1), 3 + 4 * 26 + 128 + 4096);
         Check.same("text in it", unknown.node(2), 1 + 2 * 128);
         Check.same("comment beside it", unknown.node(3), 2 + 128);
     }
 
     private static void deepNodes() {
-        MarkupSieve sieve = Sieves.cleaned("<b>".repeat(8) + "x<b>y<n>z<!c></b>w");
+        Sieve sieve = Sieves.cleaned("<b>".repeat(8) + "x<b>y<n>z<!c></b>w");
         Check.same("nodes", sieve.nodes(), 13);
         Check.same("the eighth", sieve.node(7), 3 + 4 * B + 7 * 128);
         Check.same("text in it", sieve.node(8), 1 + 8 * 128);
@@ -87,7 +87,7 @@ public final class TreeTest {
     }
 
     private static void text() {
-        MarkupSieve sieve = Sieves.cleaned("0123456789abcdefgh<!--klmnopqrst--><b c=d></b>&lt;");
+        Sieve sieve = Sieves.cleaned("0123456789abcdefgh<!--klmnopqrst--><b c=d></b>&lt;");
         Check.same("first eight", sieve.text(0, 0), Sieves.pack("01234567"));
         Check.same("next eight", sieve.text(0, 1), Sieves.pack("89abcdef"));
         Check.same("the rest", sieve.text(0, 2), Sieves.pack("gh"));
@@ -108,7 +108,7 @@ public final class TreeTest {
     }
 
     private static void length() {
-        MarkupSieve sieve = Sieves.cleaned("t<b a z=&lt;&#65;b c='' o=o xx=1>u<!c>");
+        Sieve sieve = Sieves.cleaned("t<b a z=&lt;&#65;b c='' o=o xx=1>u<!c>");
         Check.same("without a value", sieve.length(1, 0), 0);
         Check.same("as it stands for", sieve.length(1, 25), 3);
         Check.same("an empty value", sieve.length(1, 2), 0);
@@ -129,7 +129,7 @@ public final class TreeTest {
     }
 
     private static void value() {
-        MarkupSieve sieve = Sieves.cleaned("t<xx c=0123456789 d='x'><b c=klm>");
+        Sieve sieve = Sieves.cleaned("t<xx c=0123456789 d='x'><b c=klm>");
         Check.same("first eight", sieve.value(1, 2, 0), Sieves.pack("01234567"));
         Check.same("the rest", sieve.value(1, 2, 1), Sieves.pack("89"));
         Check.same("the end", sieve.value(1, 2, 2), 0L);
@@ -148,14 +148,14 @@ public final class TreeTest {
         for (int i : NO_NODES) {
             Check.same("value " + i, sieve.value(i, 2, 0), 0L);
         }
-        MarkupSieve full = Sieves.cleaned("<b c='" + "x".repeat(192) + "'>");
+        Sieve full = Sieves.cleaned("<b c='" + "x".repeat(192) + "'>");
         Check.same("the longest", full.length(0, 2), 192);
         Check.same("its end", full.value(0, 2, 23), Sieves.pack("xxxxxxxx"));
         Check.same("behind it", full.value(0, 2, 24), 0L);
     }
 
     private static void manyNodes() {
-        MarkupSieve sieve = Sieves.cleaned("x<n>".repeat(50));
+        Sieve sieve = Sieves.cleaned("x<n>".repeat(50));
         Check.same("100 nodes", sieve.nodes(), 100);
         Check.same("the last", sieve.node(99), 3 + 4 * N);
         Check.same("comments", Sieves.cleaned("x<!>".repeat(49) + "x<!y").nodes(), 100);
@@ -171,7 +171,7 @@ public final class TreeTest {
         String some = all.substring(0, 2 + 2 * 16) + ">";
         String input = all.toString().repeat(3) + some;
         Check.same("the input is full", input.length(), 200);
-        MarkupSieve sieve = Sieves.cleaned(input);
+        Sieve sieve = Sieves.cleaned(input);
         for (int a = 0; a < 26; a++) {
             Check.same("of the first", sieve.length(0, a), 0);
             Check.same("of the third", sieve.length(2, a), 0);
