@@ -260,14 +260,17 @@ public final class EdgeBuildTest {
         reads("<u><u>x", "u(u('x'))");
     }
 
-    /** "after that": the p goes first, and what l closes is looked for in what is left. */
+    /**
+     * "after that": the p goes first, and what l closes is looked for in what is left. No call can
+     * tell this from the other order: a u or l closes the p before it, so none lies in a p of the
+     * same scope.
+     */
     private static void paragraphBeforeItem() {
         reads("<p><l>x", "p l('x')");
         reads("<l><p><l>x", "l(p) l('x')");
         reads("<u><p><l>x", "u(p l('x'))");
         reads("<u><l><p><l>x", "u(l(p) l('x'))");
         reads("<l><u><p><b><l>x", "l(u(p(b) l('x')))");
-        // A u or l closes the p that is open before it, so none is in a p of the same scope.
         reads("<p><u><l>x", "p u(l('x'))");
         reads("<l><p><u><l>x", "l(p u(l('x')))");
     }

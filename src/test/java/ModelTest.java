@@ -1,7 +1,10 @@
 import java.util.Random;
 import java.util.TreeSet;
 
-/** Cleans many made-up inputs, the same ones each time, and holds all answers against the model. */
+/**
+ * Cleans all short rows of tags and many made-up inputs, the same ones each time, and holds all
+ * answers against the model.
+ */
 public final class ModelTest {
     private static final String[] PIECES = {
         "<", "</", ">", "/>", " ", "=", "\"", "'", "/", "&", ";", "&lt;", "&gt;", "&amp;", "&quot;",
@@ -10,6 +13,11 @@ public final class ModelTest {
         " c=\"&quot;<\"", " d='\"&amp;'", "<s>", "</s>", "</S ", "</s", "<S/>", "</p>", "<xx>", "</yy>",
         "<v>", "</v>", "<f>", "</f>", "<n>", "<m/>", "</n>", "<l>", "<u>", "</u>", "</l>", "<a>", "</a>",
     };
+    private static final String[] TAGS = {
+        "<a>", "<b>", "<p>", "<d>", "<l>", "<u>", "<v>", "<f>", "<n>", "<s>", "</a>", "</p>", "</u>", "</v>", "</f>",
+        "</n>", "</s>", "<xx>", "</yy>", "x"
+    };
+    private static final int TAGS_IN_A_ROW = 4;
     private static final String TAG_LETTERS = "abdflmnpsuv";
     // So few that an object stays far below the calls that the document speaks of.
     private static final int INPUTS_EACH = 3;
@@ -23,6 +31,9 @@ public final class ModelTest {
     public static void main(String[] args) {
         int turns = args.length > 0 ? Integer.parseInt(args[0]) : 20000;
         Random random = new Random(args.length > 1 ? Long.parseLong(args[1]) : 20261115L);
+        for (String kept : new String[] {"", "apnlu", "abdflmnpuv"}) {
+            compareRows(kept);
+        }
         for (int turn = 0; turn < turns && Check.failures() < 10; turn++) {
             Sieve sieve = new Sieve();
             Model model = new Model();
@@ -36,6 +47,27 @@ public final class ModelTest {
             Check.same("an input takes " + rounds + " rounds", NOTED_ROUNDS[rounds] > 0, due);
         }
         Check.finish();
+    }
+
+    /** All rows of four tags, counted through as numbers whose digits are the tags. */
+    private static void compareRows(String kept) {
+        Sieve sieve = Sieves.act(Sieves.keeping(kept), MarkupSieve.UNWRAP, "s");
+        Model model = new Model();
+        model.actions['s' - 'a'] = MarkupSieve.UNWRAP;
+        for (char c : kept.toCharArray()) {
+            model.actions[c - 'a'] = MarkupSieve.KEEP;
+        }
+        int rows = 1;
+        for (int i = 0; i < TAGS_IN_A_ROW; i++) {
+            rows *= TAGS.length;
+        }
+        for (int row = 0; row < rows && Check.failures() < 10; row++) {
+            StringBuilder input = new StringBuilder();
+            for (int rest = row + rows; rest > 1; rest /= TAGS.length) {
+                input.append(TAGS[rest % TAGS.length]);
+            }
+            compare(sieve.again(), model, input + "x");
+        }
     }
 
     private static void choosePolicy(Random random, Sieve sieve, Model model) {
