@@ -31,6 +31,7 @@ public final class EdgeBuildTest {
         unknownEnds();
         noneInTheTail();
         endOfParagraph();
+        endOfParagraphHasNoAttributes();
         endOfParagraphAtEight();
         Check.finish();
     }
@@ -175,6 +176,10 @@ public final class EdgeBuildTest {
         reads("<a><v><f><a><b><a>", "a(*v(*f(a(b) a)))");
         reads("<a><v></v><a>", "a(*v) a");
         reads("<a><v><a>", "a(*v(*a))");
+        // The last one is the f: an a before it, foreign too, is in no scope.
+        reads("<v><a><f><a>x", "*v(*a(*f(a('x'))))");
+        reads("<v><a><f><a>x</a>y", "*v(*a(*f(a('x') 'y')))");
+        reads("<a><v><a><f><a>x", "a(*v(*a(*f(a('x')))))");
         reads("<v><f><p><b><p>", "*v(*f(p(b) p))");
         reads("<p><v><f><d>", "p(*v(*f(d)))");
         reads("<p><v><f><b><d>", "p(*v(*f(b(d))))");
@@ -440,6 +445,20 @@ public final class EdgeBuildTest {
         reads("<p><v><f><k></p>x", "p(*v(*f(k(p 'x'))))");
         reads("<l></p>x", "l(p 'x')");
         reads("<a></p>x", "a(p 'x')");
+    }
+
+    /** "a START p without attributes": neither those of the END nor those of other elements. */
+    private static void endOfParagraphHasNoAttributes() {
+        reads("</p c=1>", "p");
+        reads("<b c=1></b></p>", "b[c=\"1\"] p");
+        reads("</p><b c=1>", "p b[c=\"1\"]");
+        reads("<b c=1></p c=2><i c=3>", "b[c=\"1\"](p i[c=\"3\"])");
+        Sieve sieve = Sieves.cleaned("<b c=1 d=2><i e=3>x");
+        Sieves.clean(sieve, "</p></p><b c=4 d=5>");
+        Check.same("behind another tree", Sieves.drawTree(sieve), "p p b[c=\"4\" d=\"5\"]");
+        Sieve kept = Sieves.allow(Sieves.keeping("bp"), '*', "c");
+        Sieves.clean(kept, "<p c=1><b c=2></b></p>");
+        Check.same("written", Sieves.clean(kept, "</p><b c=3></b>"), "<p></p><b c=\"3\"></b> | 2");
     }
 
     /** "and the p is closed if it is open then": it is not if eight were open. */

@@ -23,6 +23,7 @@ public final class EdgeCleanTest {
         settledInTheThird();
         mostInTheFirstRound();
         mostByEachPiece();
+        mostThatBeginsAsItWas();
         mostInTheSecondRound();
         sizes();
         rejected();
@@ -219,6 +220,23 @@ public final class EdgeCleanTest {
             String due = "<b>".repeat(8) + "x".repeat(size) + "</b>".repeat(8);
             cleans(sieve, "<b>".repeat(8) + "x".repeat(size), due.length() <= 200 ? due + " | 2" : "REJECTED | 1");
         }
+    }
+
+    /** The same where the first 200 characters that would be written are just those that were read. */
+    private static void mostThatBeginsAsItWas() {
+        Sieve sieve = Sieves.allow(Sieves.keeping("bn"), '*', "c");
+        cleans(sieve, "<b>" + "x".repeat(197), "REJECTED | 1");
+        cleans(sieve, "x".repeat(197) + "<b>", "REJECTED | 1");
+        cleans(sieve, "x".repeat(197) + "<n>", "x".repeat(197) + "<n> | 1");
+        cleans(sieve, "x".repeat(193) + "<b></b>", "x".repeat(193) + "<b></b> | 1");
+        cleans(sieve, "x".repeat(194) + "<b></", "REJECTED | 1");
+        cleans(sieve, "<b>".repeat(8) + "x".repeat(176), "REJECTED | 1");
+        cleans(sieve, "x".repeat(199) + "&", "REJECTED | 1");
+        cleans(sieve, "x".repeat(195) + "&", "x".repeat(195) + "&amp; | 2");
+        cleans(sieve, "x".repeat(195) + "&amp;", "x".repeat(195) + "&amp; | 1");
+        cleans(sieve, "x".repeat(196) + "&amp", "REJECTED | 1");
+        cleans(sieve, "x".repeat(199) + "<", "REJECTED | 1");
+        cleans(sieve, "x".repeat(200), "x".repeat(200) + " | 1");
     }
 
     /** The same in the second round: the inner p closes the outer, whose END makes a third. */

@@ -8,6 +8,7 @@ public final class EdgeSiftTest {
         commentsGo();
         droppedGo();
         unwrappedGivePlace();
+        rawGivesPlace();
         unknownGivePlace();
         keptAttributes();
         addressLetters();
@@ -72,6 +73,18 @@ public final class EdgeSiftTest {
         makes(sieve, "<i><b><i><b>1", "<b><b>1</b></b>");
         makes(sieve, "<n>1", "1");
         makes(sieve, "<v><n>1</n>2", "12");
+    }
+
+    /** An unwrapped s gives its place to its raw text: none, up to its END, up to the end. */
+    private static void rawGivesPlace() {
+        Sieve sieve = Sieves.act(Sieves.keeping("b"), MarkupSieve.UNWRAP, "s");
+        makes(sieve, "1<s></s>2", "12");
+        makes(sieve, "1<s>", "1");
+        makes(sieve, "1<s>2", "12");
+        makes(sieve, "1<s>2</s", "12");
+        makes(sieve, "1<s>2</s>3", "123");
+        makes(sieve, "1<s><b>&lt;</s>3", "1&lt;b&gt;&amp;lt;3");
+        makes(sieve, "<s>" + "x".repeat(197), "x".repeat(197));
     }
 
     /** "and every unknown one": whatever is said of letters. */

@@ -36,6 +36,7 @@ public final class EdgeTreeTest {
         valueOfEachSize();
         valueBeyond();
         noValue();
+        noneOfAll();
         valuesApart();
         Check.finish();
     }
@@ -320,6 +321,32 @@ public final class EdgeTreeTest {
             Check.same("value behind the last", sieve.value(5, a, 0), 0L);
         }
         Check.same("value before clean", new Sieve().value(0, 2, 0), 0L);
+    }
+
+    /** What has no attributes has none of those of an element that has all 26. */
+    private static void noneOfAll() {
+        StringBuilder all = new StringBuilder("<b");
+        for (char c = 'a'; c <= 'z'; c++) {
+            all.append(' ').append(c).append('=').append(c);
+        }
+        Sieve sieve = Sieves.cleaned("<i>x<!y>" + all + "><k>");
+        for (int a = 0; a < 26; a++) {
+            for (int i : new int[] {-1, 0, 1, 2, 4, 5}) {
+                Check.same("length " + i + ", " + a, sieve.length(i, a), NONE);
+                Check.same("value " + i + ", " + a, sieve.value(i, a, 0), 0L);
+            }
+            Check.same("length 3, " + a, sieve.length(3, a), 1);
+            Check.same("value 3, " + a, sieve.value(3, a, 0), (long) 'a' + a);
+        }
+        for (int a : NO_LETTERS) {
+            Check.same("length 3, " + a, sieve.length(3, a), NONE);
+            Check.same("value 3, " + a, sieve.value(3, a, 0), 0L);
+        }
+        Sieve behind = Sieves.cleaned("<i>x<!y>" + all + "><k>");
+        for (int i : NO_NODES) {
+            Check.same("length " + i, behind.length(i, 2), NONE);
+            Check.same("value " + i, behind.value(i, 2, 0), 0L);
+        }
     }
 
     /** Each value ends where it ends: the next one is not read on into. */
