@@ -1,4 +1,5 @@
 import java.util.Random;
+import java.util.Set;
 import java.util.TreeSet;
 
 /**
@@ -18,6 +19,12 @@ public final class ModelTest {
         "</n>", "</s>", "<xx>", "</yy>", "x"
     };
     private static final int TAGS_IN_A_ROW = 4;
+    /** What an input begins with, and the characters that then stand in all rows. */
+    private static final String[][] BEGINS = {
+        {"", "<>/!?-bp "}, {"x<", "</>bBp!s"}, {"<b ", "c=\"'>/ d"}, {"<b c", "= \"'>/&x"}, {"<s>", "</sS> x"},
+        {"<!--", "-<>! x"}, {"", "&#36;lt"}, {"<b c=", "&#36;gt>"}, {"&", "quotamp;"}
+    };
+    private static final int CHARACTERS_IN_A_ROW = 5;
     private static final String TAG_LETTERS = "abdflmnpsuv";
     // So few that an object stays far below the calls that the document speaks of.
     private static final int INPUTS_EACH = 3;
@@ -32,7 +39,10 @@ public final class ModelTest {
         int turns = args.length > 0 ? Integer.parseInt(args[0]) : 20000;
         Random random = new Random(args.length > 1 ? Long.parseLong(args[1]) : 20261115L);
         for (String kept : new String[] {"", "apnlu", "abdflmnpuv"}) {
-            compareRows(kept);
+            compareRowsOfTags(kept);
+        }
+        for (String[] begin : BEGINS) {
+            compareRowsOfCharacters(begin[0], begin[1]);
         }
         for (int turn = 0; turn < turns && Check.failures() < 10; turn++) {
             Sieve sieve = new Sieve();
@@ -49,23 +59,37 @@ public final class ModelTest {
         Check.finish();
     }
 
-    /** All rows of four tags, counted through as numbers whose digits are the tags. */
-    private static void compareRows(String kept) {
+    private static void compareRowsOfTags(String kept) {
         Sieve sieve = Sieves.act(Sieves.keeping(kept), MarkupSieve.UNWRAP, "s");
         Model model = new Model();
         model.actions['s' - 'a'] = MarkupSieve.UNWRAP;
         for (char c : kept.toCharArray()) {
             model.actions[c - 'a'] = MarkupSieve.KEEP;
         }
+        compareRows(sieve, model, "", TAGS, TAGS_IN_A_ROW);
+    }
+
+    private static void compareRowsOfCharacters(String begin, String characters) {
+        Sieve sieve = Sieves.allow(Sieves.keeping("bp"), 'b', "cd");
+        Model model = new Model();
+        model.actions['b' - 'a'] = MarkupSieve.KEEP;
+        model.actions['p' - 'a'] = MarkupSieve.KEEP;
+        model.may.put('b' - 'a', new TreeSet<>(Set.of('c' - 'a', 'd' - 'a')));
+        compareRows(sieve, model, begin, characters.split(""), CHARACTERS_IN_A_ROW);
+    }
+
+    /** All rows of so many pieces, counted through as numbers whose digits are the pieces. */
+    private static void compareRows(Sieve sieve, Model model, String begin, String[] pieces, int size) {
         int rows = 1;
-        for (int i = 0; i < TAGS_IN_A_ROW; i++) {
-            rows *= TAGS.length;
+        for (int i = 0; i < size; i++) {
+            rows *= pieces.length;
         }
         for (int row = 0; row < rows && Check.failures() < 10; row++) {
-            StringBuilder input = new StringBuilder();
-            for (int rest = row + rows; rest > 1; rest /= TAGS.length) {
-                input.append(TAGS[rest % TAGS.length]);
+            StringBuilder input = new StringBuilder(begin);
+            for (int rest = row + rows; rest > 1; rest /= pieces.length) {
+                input.append(pieces[rest % pieces.length]);
             }
+            compare(sieve.again(), model, input.toString());
             compare(sieve.again(), model, input + "x");
         }
     }
